@@ -762,13 +762,10 @@ public final class SunRopes {
         return next;
     }
 
-    /** The lower number is a power of two: halving both is all that lowest terms need. */
+    /** The lower number is a power of two: halving both is all that lowest terms need, of 0, too. */
     private void tellChance(int ways, int halvings) {
         chanceUpper = ways;
         chanceLower = 1L << halvings;
-        if (ways == 0) {
-            chanceLower = 1;
-        }
         for (int k = 0; k < halvings && chanceLower > 1 && (chanceUpper & 1) == 0; k++) {
             chanceUpper /= 2;
             chanceLower /= 2;

@@ -189,6 +189,9 @@ public final class PromiseTest {
         due(x, "mean of great ones", x.mean(2), 1, MOST - 1);
         lay(x, 2, LEAST, LEAST);
         due(x, "mean of least ones", x.mean(2), 1, LEAST);
+        x.row(2, 40);
+        x.lay(2, 39, 80);
+        due(x, "mean of 40", x.mean(2), 1, 2);
         x.row(2, 0);
         finds(x, "mean of none", o -> o.mean(2), NOUGHT);
         finds(x, "mean(5)", o -> o.mean(5), NOTHING);
@@ -271,6 +274,10 @@ public final class PromiseTest {
         dueFault("c11v011v011v011v011 v011", 20);
         dueFault("c11v011v011v011v011", NONE);
         dueFault("c11v0119", 7);
+        dueFault("c11".repeat(5) + " ".repeat(45), NONE);
+        dueFault("c11" + " ".repeat(56) + "c", 60);
+        dueFault("c11" + " ".repeat(55) + "v0", 60);
+        dueFault(" ".repeat(60), 60);
         SunRopes x = new SunRopes();
         write(x, 0, "c11");
         x.put(0, 0, 99 + 256);
@@ -393,6 +400,10 @@ public final class PromiseTest {
         due("a noon, the sun being down", x.mark(2, 3), 0);
         x = yearOf("g70 l00 l08 h00");
         due("a giant without a crew", x.mark(0, 5), 0);
+        x = yearOf("c01 g30 g20 l00 l08");
+        due("a giant without a crew behind others", x.mark(1, 5), 0);
+        due("another one", x.mark(2, 5), 0);
+        x = yearOf("g70 l00 l08 h00");
         due("a lazy with a crew of 0", x.mark(1, 4), 5);
         due("a lazy with a crew of 8", x.mark(2, 4), 1);
         due("a hair without a rope", x.mark(3, 1), 1);
@@ -490,6 +501,11 @@ public final class PromiseTest {
         refuses(x, "rope(1, 1) behind 60 deeds", o -> o.rope(1, 1), BAD);
         refuses(x, "rise behind 60 deeds", o -> o.rise(), FULL);
         refuses(x, "lots behind 60 deeds", o -> o.lots(1, 1), FULL);
+
+        x = yearOf("c00");
+        for (int k = 0; k < 60; k++) x.rope(0, 1);
+        refuses(x, "rise by day behind 60 deeds", o -> o.rise(), STATE);
+        refuses(x, "hold by day behind 60 deeds", o -> o.hold(1), FULL);
 
         x = yearOf("s99 s99 s99 c99");
         due(x, "a minute at least", x.hold(15), 1, 15);
@@ -590,7 +606,6 @@ public final class PromiseTest {
         x.hold(0);
         x.hold(0);
         due(x, "gained()", x.gained(), 11, 2);
-        due(yearOf("c99"), "gained() without valleys", yearOf("c99").gained(), 0, 0);
         x = yearOf("c99");
         due(x, "gained() without valleys", x.gained(), 0, NONE);
         x = new SunRopes();
@@ -641,6 +656,27 @@ public final class PromiseTest {
         due("on(0) with 60 deeds", y.on(0), 60);
         due("undo(1)", y.undo(1), 59);
         due(y, "sun()", y.sun(), 7, 1);
+        x = yearOf("s99 c99 v009");
+        x.hold(1);
+        x.hold(2);
+        x.keep(0);
+        long two = x.digest();
+        x.undo(0);
+        x.rope(0, 3);
+        holdTimes(x, 5, 3);
+        due("on(0) behind other deeds", x.on(0), 2);
+        due("as it was kept", x.digest(), two);
+        due("undo(1)", x.undo(1), 1);
+        due(x, "the first of the kept deeds", x.sun(), 4, 2);
+        dueCape(x, 0, 8, 8);
+        y = yearOf("c99 v079");
+        holdTimes(y, 59, 0);
+        y.rope(0, 4);
+        y.keep(0);
+        y.undo(3);
+        due("on(0) with 60 deeds", y.on(0), 60);
+        dueCape(y, 0, 4, 9);
+        due(y, "sun()", y.sun(), 48, 0);
     }
 
     // ---- 3 plans (aside)
@@ -680,6 +716,13 @@ public final class PromiseTest {
         x.price(1, 7);
         x.hold(0);
         due(x, "run with a new worth", x.run(0), 7, 18);
+        x = yearOf("c11 v072 v073 v074 v075");
+        lay(x, 0, 0, 9);
+        x.best(1, 0);
+        due(x, "run of four valleys, no set being behind the row's end", x.run(0), 14, 6);
+        write(x, 0, "c11 v072");
+        x.year(0);
+        due(x, "run of one valley behind four", x.run(0), 2, 6);
 
         promise = 25;
         refusesPlans("burns", (y, r) -> y.burns(r));
@@ -696,6 +739,10 @@ public final class PromiseTest {
         due(x, "none burns", x.burns(0), NONE, 1);
         x.row(0, 0);
         due("burns of none", x.burns(0), NONE);
+        x = yearOf("c11");
+        lay(x, 0, 0, 1);
+        x.best(1, 0);
+        due("a set behind the row's end burns none", x.burns(0), NONE);
     }
 
     private static void searched() {
@@ -774,6 +821,9 @@ public final class PromiseTest {
         due(x, "longest(), the sun being down", x.longest(), 0, 0);
         x = yearOf("c00");
         due(x, "longest() by none", x.longest(), 0, 8);
+        x = yearOf("g99 g99");
+        // 8 hours of 2 and one of 6 (two lurches): at 22; 28, 34, 40, 46, 52. By one: 11.
+        due(x, "longest() by all", x.longest(), 3, 14);
         refuses(new SunRopes(), "longest() without capes", o -> o.longest(), STATE);
     }
 
@@ -811,6 +861,13 @@ public final class PromiseTest {
         due(x, "a noon at noon needs none", x.ropes(0), 0, 0);
         lay(x, 0, 0, 2, 0, 0, 1);
         due(x, "a noon ahead of noon needs one", x.ropes(0), 1, 1);
+        // The hair burns at 12; with a new rope of the other one the sun is at 11, an odd place.
+        x = yearOf("c05 h19");
+        lay(x, 0, 1, 0, 2);
+        due(x, "either of two: the least", x.ropes(0), 1, 1);
+        x = yearOf("c19 c19 c19 c19 c19");
+        lay(x, 0, 31);
+        due(x, "all five", x.ropes(0), 5, 31);
     }
 
     // ---- 4 lurches, votes
@@ -873,6 +930,9 @@ public final class PromiseTest {
         x = yearOf("c13 c13 g99 g99 v009 d003 v225 d119");
         x.hold(4);
         due("two that lurch", x.choice(), 3);
+        x = yearOf("s99 s99 v009");
+        x.hold(3);
+        due("all must hold", x.choice(), 3);
         refuses(new SunRopes(), "choice() without capes", o -> o.choice(), STATE);
     }
 
@@ -898,6 +958,9 @@ public final class PromiseTest {
         due(x, "two together", x.parts(0), 1, NONE);
         lay(x, 0, 7, 5);
         due(x, "two together have enough, one has not", x.parts(0), 0, 2);
+        x.price(1, 0);
+        lay(x, 0, 6, 0);
+        due(x, "a worth of 0 asks no part", x.parts(0), 1, NONE);
         x.row(1, 3);
         finds(x, "parts of three", o -> o.parts(1), SIZE);
         x.row(1, 1);
@@ -1123,6 +1186,9 @@ public final class PromiseTest {
         x.hold(1);
         int[] counts = {4, 3, 1, 2, 0, 2, 2, 2, 1};
         for (int what = 0; what <= 8; what++) due("count(" + what + ")", x.count(what), counts[what]);
+        SunRopes five = yearOf("c99 c99 c99 c99 c99 v079");
+        five.hold(0);
+        due("count(3) of five", five.count(3), 5);
         holdTimes(x, 3, 0);
         due("count(3) at 25", x.count(3), 1);
         holdTimes(x, 4, 0);
