@@ -36,9 +36,9 @@ public final class SunRopes {
     private final Day now = new Day();
     private final Diary diary = new Diary();
     private final Diary[] kept = new Diary[KEPT_YEARS];
-    private final Plans plans = new Plans(year);
-    private final Search search = new Search(year);
-    private final Council council = new Council(year);
+    private final Plans plans = new Plans();
+    private final Search search = new Search();
+    private final Council council = new Council();
     private final int[] order = new int[CAPES];
     private final int[] findingCounts = new int[SIZE + 1];
     private int latestFinding = 0;
@@ -336,7 +336,7 @@ public final class SunRopes {
         if (refusal != FITS_WELL) {
             return refusal;
         }
-        int gain = plans.gainOf(now, rows[r]);
+        int gain = plans.gainOf(year, now, rows[r]);
         told = plans.tells;
         return gain;
     }
@@ -346,7 +346,7 @@ public final class SunRopes {
         if (refusal != FITS_WELL) {
             return refusal;
         }
-        int hour = plans.firstLurch(now, rows[r], 0);
+        int hour = plans.firstLurch(year, now, rows[r], 0);
         if (hour != NONE) {
             told = plans.tells;
         }
@@ -360,7 +360,7 @@ public final class SunRopes {
         if (year.capes == 0) {
             return STATE;
         }
-        int gain = search.mostGain(now, n);
+        int gain = search.mostGain(year, now, n);
         rows[r].take(search.first, n);
         return gain;
     }
@@ -372,7 +372,7 @@ public final class SunRopes {
         if (year.capes == 0) {
             return STATE;
         }
-        int minute = search.leastMinute(now, n);
+        int minute = search.leastMinute(year, now, n);
         rows[r].take(search.first, n);
         return minute;
     }
@@ -381,7 +381,7 @@ public final class SunRopes {
         if (!year.hasSet(set)) {
             return BAD;
         }
-        return year.capes == 0 ? STATE : plans.hoursTillDown(now, set);
+        return year.capes == 0 ? STATE : plans.hoursTillDown(year, now, set);
     }
 
     public int longest() {
@@ -391,7 +391,7 @@ public final class SunRopes {
         int first = 0;
         int most = -1;
         for (int set = 0; set <= year.allCapes(); set++) {
-            int hours = plans.hoursTillDown(now, set);
+            int hours = plans.hoursTillDown(year, now, set);
             if (hours > most) {
                 most = hours;
                 first = set;
@@ -406,7 +406,7 @@ public final class SunRopes {
         if (refusal != FITS_WELL) {
             return refusal;
         }
-        int fewest = plans.fewestRopes(now, rows[r]);
+        int fewest = plans.fewestRopes(year, now, rows[r]);
         if (fewest != NONE) {
             told = plans.tells;
         }
@@ -438,8 +438,8 @@ public final class SunRopes {
         if (year.capes == 0) {
             return STATE;
         }
-        council.weigh(now);
-        told = council.votersFor(set, other);
+        council.weigh(year, now);
+        told = council.votersFor(year, set, other);
         return Integer.bitCount(told);
     }
 
@@ -447,8 +447,8 @@ public final class SunRopes {
         if (year.capes == 0) {
             return STATE;
         }
-        council.weigh(now);
-        return council.firstUnbeaten();
+        council.weigh(year, now);
+        return council.firstUnbeaten(year);
     }
 
     public int parts(int r) {
@@ -459,8 +459,8 @@ public final class SunRopes {
         if (rows[r].size != year.valleys) {
             return found(SIZE);
         }
-        council.weigh(now);
-        told = council.firstLeaving(rows[r]);
+        council.weigh(year, now);
+        told = council.firstLeaving(year, rows[r]);
         return told == NONE ? 1 : 0;
     }
 
@@ -475,7 +475,7 @@ public final class SunRopes {
             return refusal;
         }
         int hours = rows[r].size;
-        int ways = search.waysThatFit(now, set, rows[r]);
+        int ways = search.waysThatFit(year, now, set, rows[r]);
         if (ways > 0) {
             rows[to].take(search.first, hours);
         }
@@ -490,7 +490,7 @@ public final class SunRopes {
         if (refusal != FITS_WELL) {
             return refusal;
         }
-        return search.waysThatFit(now, set, rows[r]) > 0 ? search.slips : 0;
+        return search.waysThatFit(year, now, set, rows[r]) > 0 ? search.slips : 0;
     }
 
     // ---- 6 chances, lots
@@ -502,7 +502,7 @@ public final class SunRopes {
         if (year.capes == 0) {
             return STATE;
         }
-        tellChance(search.waysTo(now, set, n, m), Integer.bitCount(set) * n);
+        tellChance(search.waysTo(year, now, set, n, m), Integer.bitCount(set) * n);
         return 1;
     }
 
@@ -1120,15 +1120,10 @@ public final class SunRopes {
 
     /** What plans and lasting sets would do, on a day of its own. */
     private static final class Plans {
-        private final Year year;
         private final Day day = new Day();
         int tells = 0;
 
-        Plans(Year year) {
-            this.year = year;
-        }
-
-        int gainOf(Day now, Row plan) {
+        int gainOf(Year year, Day now, Row plan) {
             day.take(now);
             int gain = 0;
             for (int hour = 0; hour < plan.size; hour++) {
@@ -1140,7 +1135,7 @@ public final class SunRopes {
         }
 
         /** The first hour with a lurch, if the capes of a set have new ropes; tells who lurches. */
-        int firstLurch(Day now, Row plan, int renewed) {
+        int firstLurch(Year year, Day now, Row plan, int renewed) {
             day.take(now);
             for (int i = 0; i < year.capes; i++) {
                 if ((renewed >> i & 1) != 0) {
@@ -1157,12 +1152,12 @@ public final class SunRopes {
             return NONE;
         }
 
-        int fewestRopes(Day now, Row plan) {
+        int fewestRopes(Year year, Day now, Row plan) {
             int fewest = CAPES + 1;
             int least = 0;
             for (int set = 0; set <= year.allCapes(); set++) {
                 int size = Integer.bitCount(set);
-                if (size < fewest && firstLurch(now, plan, set) == NONE) {
+                if (size < fewest && firstLurch(year, now, plan, set) == NONE) {
                     fewest = size;
                     least = set;
                 }
@@ -1171,7 +1166,7 @@ public final class SunRopes {
             return fewest > CAPES ? NONE : fewest;
         }
 
-        int hoursTillDown(Day now, int set) {
+        int hoursTillDown(Year year, Day now, int set) {
             day.take(now);
             int hours = 0;
             while (hours < DOWN_MINUTE && !day.isDown()) {
@@ -1188,7 +1183,6 @@ public final class SunRopes {
      * capes that can pull are enough.
      */
     private static final class Search {
-        private final Year year;
         private final Day[] days = new Day[SEARCH_HOURS];
         private final int[] plan = new int[SEARCH_HOURS];
         final int[] first = new int[SEARCH_HOURS];
@@ -1198,21 +1192,20 @@ public final class SunRopes {
         private int ways = 0;
         int slips = 0;
 
-        Search(Year year) {
-            this.year = year;
+        Search() {
             for (int depth = 0; depth < SEARCH_HOURS; depth++) {
                 days[depth] = new Day();
             }
         }
 
-        int mostGain(Day now, int n) {
+        int mostGain(Year year, Day now, int n) {
             begin(now, n);
             reached = -1;
-            seekMost(0, 0);
+            seekMost(year, 0, 0);
             return reached;
         }
 
-        private void seekMost(int depth, int gain) {
+        private void seekMost(Year year, int depth, int gain) {
             if (depth >= hours || depth >= SEARCH_HOURS) {
                 if (gain > reached) {
                     setFirst(gain);
@@ -1226,20 +1219,20 @@ public final class SunRopes {
             int sum = gain + year.gainOfAll(day.facts[MINUTE]);
             for (int set = 0; set <= holders; set++) {
                 if ((set & ~holders) == 0) {
-                    step(depth, set);
-                    seekMost(depth + 1, sum);
+                    step(year, depth, set);
+                    seekMost(year, depth + 1, sum);
                 }
             }
         }
 
-        int leastMinute(Day now, int n) {
+        int leastMinute(Year year, Day now, int n) {
             begin(now, n);
             reached = Integer.MAX_VALUE;
-            seekSlowest(0, now.facts[MINUTE]);
+            seekSlowest(year, 0, now.facts[MINUTE]);
             return reached;
         }
 
-        private void seekSlowest(int depth, int minute) {
+        private void seekSlowest(Year year, int depth, int minute) {
             if (depth >= hours || depth >= SEARCH_HOURS) {
                 if (minute < reached) {
                     setFirst(minute);
@@ -1251,21 +1244,21 @@ public final class SunRopes {
             int safe = day.able & ~day.frail;
             for (int set = 0; set <= safe; set++) {
                 if ((set & ~safe) == 0) {
-                    step(depth, set);
-                    seekSlowest(depth + 1, day.minuteBehind(year, set));
+                    step(year, depth, set);
+                    seekSlowest(year, depth + 1, day.minuteBehind(year, set));
                 }
             }
         }
 
-        int waysThatFit(Day now, int set, Row minutes) {
+        int waysThatFit(Year year, Day now, int set, Row minutes) {
             begin(now, minutes.size);
             ways = 0;
             slips = set;
-            seekFitting(0, set, 0, minutes);
+            seekFitting(year, 0, set, 0, minutes);
             return ways;
         }
 
-        private void seekFitting(int depth, int set, int slippedYet, Row minutes) {
+        private void seekFitting(Year year, int depth, int set, int slippedYet, Row minutes) {
             if (depth >= hours || depth >= SEARCH_HOURS) {
                 if (ways == 0) {
                     setFirst(0);
@@ -1278,20 +1271,20 @@ public final class SunRopes {
             day.look(year);
             for (int part = 0; part <= set; part++) {
                 if ((part & ~set) == 0 && day.minuteBehind(year, part) == minutes.places[depth]) {
-                    step(depth, part);
-                    seekFitting(depth + 1, set, slippedYet | set & ~part, minutes);
+                    step(year, depth, part);
+                    seekFitting(year, depth + 1, set, slippedYet | set & ~part, minutes);
                 }
             }
         }
 
         /** In how many rows of parts of a set the sun comes to a minute or beyond it. */
-        int waysTo(Day now, int set, int n, int minute) {
+        int waysTo(Year year, Day now, int set, int n, int minute) {
             begin(now, n);
             goal = minute;
-            return waysFrom(0, set, now.facts[MINUTE]);
+            return waysFrom(year, 0, set, now.facts[MINUTE]);
         }
 
-        private int waysFrom(int depth, int set, int minute) {
+        private int waysFrom(Year year, int depth, int set, int minute) {
             if (depth >= hours || depth >= SEARCH_HOURS) {
                 return minute >= goal ? 1 : 0;
             }
@@ -1300,8 +1293,8 @@ public final class SunRopes {
             int sum = 0;
             for (int part = 0; part <= set; part++) {
                 if ((part & ~set) == 0) {
-                    step(depth, part);
-                    sum += waysFrom(depth + 1, set, day.minuteBehind(year, part));
+                    step(year, depth, part);
+                    sum += waysFrom(year, depth + 1, set, day.minuteBehind(year, part));
                 }
             }
             return sum;
@@ -1313,7 +1306,7 @@ public final class SunRopes {
         }
 
         /** Behind the last hour no day is needed: its minute and gain are known without. */
-        private void step(int depth, int set) {
+        private void step(Year year, int depth, int set) {
             plan[depth] = set;
             if (depth + 1 < hours && depth + 1 < SEARCH_HOURS) {
                 days[depth + 1].take(days[depth]);
@@ -1329,15 +1322,10 @@ public final class SunRopes {
 
     /** What valleys would gain in the next two hours by each set that holds in both. */
     private static final class Council {
-        private final Year year;
         private final Day day = new Day();
         private final int[] gains = new int[SETS * VALLEYS];
 
-        Council(Year year) {
-            this.year = year;
-        }
-
-        void weigh(Day now) {
+        void weigh(Year year, Day now) {
             day.take(now);
             day.look(year);
             int minute = day.facts[MINUTE];
@@ -1349,7 +1337,7 @@ public final class SunRopes {
             }
         }
 
-        int votersFor(int set, int other) {
+        int votersFor(Year year, int set, int other) {
             int voters = 0;
             for (int v = 0; v < year.valleys; v++) {
                 if (gains[set * VALLEYS + v] > gains[other * VALLEYS + v]) {
@@ -1359,19 +1347,19 @@ public final class SunRopes {
             return voters;
         }
 
-        int firstUnbeaten() {
+        int firstUnbeaten(Year year) {
             for (int set = 0; set <= year.allCapes(); set++) {
-                if (!isBeaten(set)) {
+                if (!isBeaten(year, set)) {
                     return set;
                 }
             }
             return NONE;
         }
 
-        private boolean isBeaten(int set) {
+        private boolean isBeaten(Year year, int set) {
             for (int other = 0; other <= year.allCapes(); other++) {
-                int against = Integer.bitCount(votersFor(other, set));
-                if (against > Integer.bitCount(votersFor(set, other))) {
+                int against = Integer.bitCount(votersFor(year, other, set));
+                if (against > Integer.bitCount(votersFor(year, set, other))) {
                     return true;
                 }
             }
@@ -1379,7 +1367,7 @@ public final class SunRopes {
         }
 
         /** The first set of valleys that has less by these parts than it could gain. */
-        int firstLeaving(Row parts) {
+        int firstLeaving(Year year, Row parts) {
             for (int valleys = 1; valleys < 1 << year.valleys; valleys++) {
                 long has = 0;
                 for (int v = 0; v < year.valleys; v++) {
@@ -1387,14 +1375,14 @@ public final class SunRopes {
                         has += parts.places[v];
                     }
                 }
-                if (has < mostOf(valleys)) {
+                if (has < mostOf(year, valleys)) {
                     return valleys;
                 }
             }
             return NONE;
         }
 
-        private int mostOf(int valleys) {
+        private int mostOf(Year year, int valleys) {
             int most = 0;
             for (int set = 0; set <= year.allCapes(); set++) {
                 int sum = 0;
