@@ -400,7 +400,7 @@ public final class PromiseTest {
         due("a noon, the sun being down", x.mark(2, 3), 0);
         x = yearOf("g70 l00 l08 h00");
         due("a giant without a crew", x.mark(0, 5), 0);
-        x = yearOf("c01 g30 g20 l00 l08");
+        x = yearOf("c01 g30 g20 l10 l18");
         due("a giant without a crew behind others", x.mark(1, 5), 0);
         due("another one", x.mark(2, 5), 0);
         x = yearOf("g70 l00 l08 h00");
@@ -584,6 +584,14 @@ public final class PromiseTest {
         due(x, "gains do not", x.valley(0, 4), 1, 0);
         x.lots(20, 5);
         due("undo(3) of lots", x.undo(3), 17);
+        x = yearOf("c39 s22 v073");
+        start = x.digest();
+        due("undo(0), no deed being done", x.undo(0), 0);
+        due("nothing is changed", x.digest(), start);
+        x.hold(3);
+        second = x.digest();
+        due("undo(1) behind one deed", x.undo(1), 0);
+        due("nothing is changed", x.digest(), second);
         due("undo(0) without capes", new SunRopes().undo(0), 0);
         refuses(new SunRopes(), "undo(1) without capes", o -> o.undo(1), BAD);
         x = yearOf("c00");
