@@ -1,89 +1,5 @@
 /** Each promise of the document by calls whose answers were worked out by hand. */
-public final class PromiseTest {
-    private static final int BAD = -1, FULL = -2, FINDING = -3, STATE = -4, NONE = -9;
-    private static final int NOTHING = 1, BEYOND = 2, UNLIKE = 3, NOUGHT = 4, SIZE = 5;
-    private static final int LEAST = Integer.MIN_VALUE, MOST = Integer.MAX_VALUE;
-
-    private static int wrong = 0;
-    private static int calls = 0;
-    private static int promise = 0;
-
-    private static void due(String call, long got, long want) {
-        calls++;
-        if (got != want) {
-            wrong++;
-            System.out.println("promise " + promise + ": " + call + " answered " + got + ", due is " + want);
-        }
-    }
-
-    /** A call that tells by asked(), too. */
-    private static void due(SunRopes x, String call, long got, long want, long asked) {
-        due(call, got, want);
-        due(call + ", asked()", x.asked(), asked);
-    }
-
-    /** A refusal by a finding: it is counted once and nothing else changes. */
-    private interface Call { long on(SunRopes x); }
-
-    private static void finds(SunRopes x, String call, Call c, int finding) {
-        long digest = x.digest();
-        int asked = x.asked(), before = x.findings(finding);
-        due(call, c.on(x), FINDING);
-        due(call + ", finding()", x.finding(), finding);
-        due(call + ", findings()", x.findings(finding), before + 1);
-        due(call + ", digest()", x.digest(), digest);
-        due(call + ", asked()", x.asked(), asked);
-    }
-
-    private static void refuses(SunRopes x, String call, Call c, int refusal) {
-        long digest = x.digest();
-        int asked = x.asked(), finding = x.finding(), all = allFindings(x);
-        long upper = x.upper(), lower = x.lower();
-        due(call, c.on(x), refusal);
-        due(call + ", digest()", x.digest(), digest);
-        due(call + ", asked()", x.asked(), asked);
-        due(call + ", finding()", x.finding(), finding);
-        due(call + ", findings()", allFindings(x), all);
-        due(call + ", upper()", x.upper(), upper);
-        due(call + ", lower()", x.lower(), lower);
-    }
-
-    private static int allFindings(SunRopes x) {
-        int all = 0;
-        for (int f = 1; f <= 5; f++) all += x.findings(f);
-        return all;
-    }
-
-    private static void write(SunRopes x, int t, String text) {
-        x.text(t, text.length());
-        for (int p = 0; p < text.length(); p++) x.put(t, p, text.charAt(p));
-    }
-
-    private static SunRopes yearOf(String text) {
-        SunRopes x = new SunRopes();
-        write(x, 3, text);
-        x.year(3);
-        return x;
-    }
-
-    private static void lay(SunRopes x, int r, int... places) {
-        x.row(r, places.length);
-        for (int i = 0; i < places.length; i++) x.lay(r, i, places[i]);
-    }
-
-    private static void dueRow(SunRopes x, String call, int r, int... places) {
-        for (int i = 0; i < places.length; i++) {
-            due(call + ", at " + i, x.at(r, i), 1);
-            due(call + ", place " + i, x.asked(), places[i]);
-        }
-        due(call + ", size", x.at(r, places.length), FINDING);
-        due(call + ", size's finding", x.finding(), BEYOND);
-    }
-
-    private static void holdTimes(SunRopes x, int times, int set) {
-        for (int k = 0; k < times; k++) x.hold(set);
-    }
-
+public final class PromiseTest extends Checks {
     // ---- 1 rows, texts, years
 
     private static void newObject() {
@@ -428,11 +344,6 @@ public final class PromiseTest {
     }
 
     // ---- 2 hours
-
-    private static void dueCape(SunRopes x, int i, int rope, int crew) {
-        due(x, "rope of " + i, x.cape(i, 1), 1, rope);
-        due(x, "crew of " + i, x.cape(i, 2), 1, crew);
-    }
 
     private static void hours() {
         promise = 16;
@@ -1064,12 +975,6 @@ public final class PromiseTest {
 
     // ---- 6 chances, lots
 
-    private static void dueChance(SunRopes x, String call, int got, long upper, long lower) {
-        due(call, got, 1);
-        due(call + ", upper()", x.upper(), upper);
-        due(call + ", lower()", x.lower(), lower);
-    }
-
     private static void chances() {
         promise = 37;
         SunRopes x = yearOf("c99 c99 s99");
@@ -1283,7 +1188,6 @@ public final class PromiseTest {
         byLots();
         told();
         digests();
-        System.out.println(wrong == 0 ? calls + " answers are as due" : wrong + " answers are not as due");
-        if (wrong != 0) System.exit(1);
+        tellEnd();
     }
 }
