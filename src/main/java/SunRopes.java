@@ -22,6 +22,8 @@ public final class SunRopes {
 
     private static final int HOUR_MINUTES = 6, NOON_MINUTE = 24, DOWN_MINUTE = 48, LURCH_MINUTES = 2;
     private static final int DAYS_PAID = 7, LAST_MINUTE = 99, MOST = 9;
+    /** Beyond every minute that hours can bring the sun to. */
+    private static final int FAR_MINUTE = 1000;
 
     /** Where the facts of a day stand in its one array: one array is kept and undone at a stroke. */
     private static final int MINUTE = 0, OWED = 1, ROPE = 2, CREW = 7, GAIN = 12, FACTS = 16;
@@ -1227,7 +1229,7 @@ public final class SunRopes {
 
         int leastMinute(Year year, Day now, int n) {
             begin(now, n);
-            reached = Integer.MAX_VALUE;
+            reached = FAR_MINUTE;
             seekSlowest(year, 0, now.facts[MINUTE]);
             return reached;
         }

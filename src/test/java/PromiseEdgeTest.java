@@ -340,6 +340,13 @@ public final class PromiseEdgeTest extends Checks {
             due("a rope of " + rope + ", a crew of 1", yearOf("g" + rope + "1").mark(0, 5), rope);
             due("a rope of " + rope + ", a crew of 9", yearOf("g" + rope + "9").mark(0, 5), rope);
         }
+        says(14, "of capes behind others");
+        SunRopes y = yearOf("g50 l04 g60 l27 g41");
+        due("a lazy with a crew of 4", y.mark(1, 4), 3);
+        due("a lazy with a crew of 7", y.mark(3, 4), 1);
+        due("a giant without a crew", y.mark(2, 5), 0);
+        due("a giant with a rope of 4", y.mark(4, 5), 4);
+        due("a strong", y.mark(4, 2), 2);
         says(14, "BAD: also KIND 0; UNLIKE");
         SunRopes x = yearOf("c99 h99 s99 l99 g99");
         for (int i = 0; i <= 4; i++) {
@@ -569,33 +576,48 @@ public final class PromiseEdgeTest extends Checks {
         due(x, "the last one", x.gained(), 12, 3);
     }
 
+    /** What a kept year holds, told by one number. */
+    private static long yearTold(SunRopes x) {
+        long h = digestOf(x.sun(), x.asked(), x.count(2));
+        for (int i = 0; i < x.count(0); i++) {
+            for (int what = 0; what <= 2; what++) h = digestOf(h, told(x, x.cape(i, what)));
+        }
+        for (int v = 0; v < x.count(1); v++) {
+            for (int what = 0; what <= 4; what++) h = digestOf(h, told(x, x.valley(v, what)));
+        }
+        return h;
+    }
+
     private static void keptYears() {
         says(22, "The YEAR is kept in a place (0 .. 2): how many DEEDS");
         SunRopes x = yearOf("c59 h55 l93 v034 d347");
-        long[] digests = new long[3];
+        long[] kept = new long[3], deedBefore = new long[3];
         int[] deeds = {0, 1, 60};
         for (int k = 0; k <= 2; k++) {
-            while (x.count(2) < deeds[k]) x.hold(x.count(2) % 8);
+            while (x.count(2) < deeds[k]) {
+                deedBefore[k] = yearTold(x);
+                x.hold(x.count(2) % 8);
+            }
             if (k == 1) x.price(0, 0);
             due("keep(" + k + ")", x.keep(k), deeds[k]);
-            digests[k] = x.digest();
+            kept[k] = yearTold(x);
             due("kept years", x.count(8), k + 1);
         }
         says(23, "The YEAR is as it was kept: how many DEEDS");
-        int[][] worths = {{4, 7}, {0, 7}, {0, 7}};
         int[] order = {1, 0, 2, 0, 1, 2, 2};
-        x.price(1, 1);
         for (int k : order) {
+            x.undo(0);
+            x.price(1, 1);
+            x.rope(0, 1);
+            for (int h = 0; h < 10; h++) x.hold(7 - h % 8);
             due("on(" + k + ")", x.on(k), deeds[k]);
-            for (int v = 0; v <= 1; v++) due("worth " + v, told(x, x.valley(v, 3)), worths[k][v]);
-            due("deeds", x.count(2), deeds[k]);
-            due("undo(0)", x.undo(0), deeds[k]);
+            due("all of it", yearTold(x), kept[k]);
+            if (deeds[k] == 0) continue;
+            due("its last deed", x.undo(deeds[k] - 1), 1);
+            // Worths stay as they were kept: of the first place's 4 there is 0 in both others.
+            if (k == 2) due("as ahead of that deed", yearTold(x), deedBefore[2]);
+            due("the other ones", x.undo(0), deeds[k] - 1);
             dueCape(x, 0, 5, 9);
-            x.on(k);
-            // Of kept years digest() tells how many deeds: all three are kept now.
-            if (k == 2) due("all of it", x.digest(), digests[2]);
-            x.price(0, 9);
-            if (deeds[k] < 60) x.hold(7);
         }
         says(22, "a kept YEAR is kept over");
         x.on(1);
@@ -740,6 +762,14 @@ public final class PromiseEdgeTest extends Checks {
         dueRow(x, "none, then both: as slow as the other one twice", 0, 0, 3);
         due("slowest(3)", x.slowest(3, 0), 5 + 5 + 4);
         dueRow(x, "slowest(3)", 0, 0, 3, 3);
+        // At 11 the first may lurch to 18, where the hairs (they rest ahead of it) burn no rope: 19 by a
+        // lurch, as by the giant twice without one.
+        x = yearOf("c19 h35 h35 h35 g99");
+        holdTimes(x, 3, 14);
+        holdTimes(x, 2, 30);
+        due("the sun's minute", x.sun(), 11);
+        due("slowest(2), a plan with a lurch ahead of it", x.slowest(2, 0), 19);
+        dueRow(x, "the first without a lurch", 0, 16, 16);
         x = yearOf("g99 g99 g99 c99 c99");
         due("a minute at least: slowest(1)", x.slowest(1, 0), 1);
         dueRow(x, "the first that pull 5 or more", 0, 7);
@@ -852,6 +882,9 @@ public final class PromiseEdgeTest extends Checks {
         due(x, "for the one", x.votes(1, 0), 2, 3);
         due(x, "for the other", x.votes(0, 1), 1, 4);
         due(x, "for itself", x.votes(1, 1), 0, 0);
+        x = yearOf("g99 g99 c99 c99 c99 v001 v002 d003 v114");
+        due(x, "all five capes, all four valleys", x.votes(31, 0), 2, 3);
+        due(x, "against all five", x.votes(0, 31), 2, 12);
         x = yearOf("c99 v001 v009 v051 d178");
         due(x, "three of four", x.votes(1, 0), 3, 11);
         x = yearOf("c99 v001 v009 d171 d178");
@@ -886,6 +919,16 @@ public final class PromiseEdgeTest extends Checks {
         x.price(0, 1);
         holdTimes(x, 8, 0);
         due("by night: the first", x.choice(), 0);
+        // From 4 on all five bring the sun to 5, all others to 6 or more.
+        x = yearOf("c99 c99 c99 c99 c99 v009");
+        x.hold(3);
+        due("the last set alone", x.choice(), 31);
+        due(x, "it beats the one ahead of it", x.votes(31, 30), 1, 1);
+        due(x, "which beats no other one", x.votes(30, 0), 0, 0);
+        lay(x, 0, 18);
+        due(x, "what the last set alone brings", x.parts(0), 1, NONE);
+        lay(x, 0, 17);
+        due(x, "one less than that", x.parts(0), 0, 1);
         says(33, "STATE: no CAPES");
         refuses(new SunRopes(), "choice()", o -> o.choice(), STATE);
     }
@@ -906,6 +949,14 @@ public final class PromiseEdgeTest extends Checks {
             lay(x, 0, parts);
             due(x, "valley " + v + " alone has one less", x.parts(0), 0, 1 << v);
         }
+        // By none the sun is at 6, by any at 5 or less.
+        SunRopes y = yearOf("g99 g99 c99 c99 c99 v001 v002 d003 v114");
+        lay(y, 0, 2, 4, 3, 4);
+        due(y, "the most of each, by one set or another", y.parts(0), 1, NONE);
+        lay(y, 0, 2, 4, 3, 3);
+        due(y, "the most that only none who holds brings", y.parts(0), 0, 8);
+        lay(y, 0, 2, 4, 2, 4);
+        due(y, "the same of the dark", y.parts(0), 0, 4);
         says(34, "the first set that has by asked() (bits; NONE: none)");
         lay(x, 0, 1, 3, 5, 7);
         due(x, "all have less: the first", x.parts(0), 0, 1);
@@ -1220,6 +1271,17 @@ public final class PromiseEdgeTest extends Checks {
         x.row(1, 0);
         long all = digestOf(year, -1, 0, -1, -1, -1, -1, -1, -1, -1, 7, 'h', '1', '9', ' ', 'g', '9', '0');
         due("digest() by night", x.digest(), all);
+        says(45, "the MINUTE, what is OWED; of each CAPE cape() 0 to 3; of each VALLEY valley() 0 to 4");
+        String full = "c55 h11 s55 n55 g51 v075 v001 d162 d779";
+        x = yearOf(full);
+        x.hold(31);
+        // At 1 and 2 more by the hair's lurch, 5 owed; the hair is without a rope and a crew.
+        h = digestOf(17, 5, 4, 1, 4, 0, 2, 0, 1, 0, 3, 5);
+        h = digestOf(h, 0, 4, 4, 1, 1, 0, 0, 0, 2, 4, 4, 2, 3, 4, 4, 1, 5, 4, 1, 2);
+        h = digestOf(h, 1, 0, 7, 5, 5, 1, 0, 0, 1, 1, 0, 1, 6, 2, 2, 0, 7, 7, 9, 9);
+        h = digestOf(h, -1, -1, -1, -1, -1, -1, -1, -1, -1, -1, -1, -1, full.length());
+        for (char sign : full.toCharArray()) h = digestOf(h, sign);
+        due("digest() of a full year", x.digest(), h);
     }
 
     public static void main(String[] args) {
