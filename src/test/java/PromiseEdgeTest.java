@@ -735,6 +735,11 @@ public final class PromiseEdgeTest extends Checks {
             due("best(" + n + ") by night", x.best(n, 5), n);
             dueRow(x, "all alike by night", 5, new int[n]);
         }
+        x = yearOf("c99 c99");
+        due("slowest(3)", x.slowest(3, 0), 12);
+        dueRow(x, "slowest(3)", 0, 3, 3, 3);
+        due("best(3) that gains nothing, behind another search", x.best(3, 0), 0);
+        dueRow(x, "the first", 0, 0, 0, 0);
         // By any of them the sun is at 5 behind an hour: two hours of light; of those the first.
         x = yearOf("c99 c99 h99 n99 c99 v009");
         due("best(2)", x.best(2, 0), 18);
@@ -1093,6 +1098,16 @@ public final class PromiseEdgeTest extends Checks {
         // A lurch each: 6, 7, 7, 8 by how many hold.
         dueChance(x, "lurches", x.odds(3, 1, 7), 3, 4);
         dueChance(x, "both lurch", x.odds(3, 1, 8), 1, 4);
+        says(37, "each CAPE of a set HOLDS or not: sets with others between");
+        x = yearOf("c99 g99 c99");
+        dueChance(x, "the first and the last", x.odds(5, 1, 5), 3, 4);
+        dueChance(x, "the first and the last, both", x.odds(5, 1, 6), 1, 4);
+        dueChance(x, "the last", x.odds(4, 1, 6), 1, 2);
+        dueChance(x, "the one between", x.odds(2, 1, 5), 1, 2);
+        dueChance(x, "the last, twice", x.odds(4, 2, 11), 3, 4);
+        dueChance(x, "the last two, thrice", x.odds(6, 3, 18), 1, 64);
+        x = yearOf("c99 c99");
+        x.odds(3, 1, 6);
         says(37, "BAD; STATE: no CAPES");
         refuses(x, "m 100", o -> o.odds(3, 1, 100), BAD);
         refuses(x, "m -1", o -> o.odds(3, 1, -1), BAD);
